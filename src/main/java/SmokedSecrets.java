@@ -275,7 +275,7 @@ public final class SmokedSecrets {
     }
 
     private void passNight() {
-        int wiser = world.pass(now);
+        int wiser = world.pass(now, World.ALL);
         past.write(now, wiser);
     }
 
@@ -632,7 +632,10 @@ public final class SmokedSecrets {
             return sign >= '0' && sign <= '9';
         }
 
-        /** The number that stands here, the place then behind it; NONE: no number, or too long, the place then where it is wrong. */
+        /**
+         * The number that stands here, the place then behind it. NONE: no number, or too long a one, the place then
+         * where it is wrong.
+         */
         int number(int mostDigits) {
             int value = 0;
             int digits = 0;
@@ -657,7 +660,7 @@ public final class SmokedSecrets {
         static final int FIRST_SECRET = FIRST_PERSON + PERSON_ITEMS * MOST_PERSONS;
         static final int ITEMS = FIRST_SECRET + SECRET_ITEMS * MOST_SECRETS;
 
-        /** The ITEMS' numbers: of the RULES (wide first), then of each PERSON, then of each SECRET, in the order of the document. */
+        /** The ITEMS' numbers, in the document's order: of the RULES, then of each PERSON, then of each SECRET. */
         final Row told = new Row(ITEMS);
         private int wide;
         private int persons;
@@ -1306,6 +1309,8 @@ public final class SmokedSecrets {
 
     /** What smokes where, and how a NIGHT goes. */
     private static final class World {
+        /** All SECRETS, as bits. */
+        static final int ALL = (1 << MOST_SECRETS) - 1;
         private static final int MOST_STRENGTH = 9;
 
         private final Coast coast;
@@ -1419,12 +1424,15 @@ public final class SmokedSecrets {
             return sum;
         }
 
-        /** A NIGHT goes by, the LOG apart: who KNOWS of one more SECRET at least (bits). */
-        int pass(State state) {
+        /**
+         * A NIGHT goes by, the LOG apart: who KNOWS of one more of these SECRETS (bits) at least, as bits. Of others
+         * no BREATH is added: none hangs on another's, and what is tried on copies asks for one SECRET's alone.
+         */
+        int pass(State state, int secrets) {
             knownAhead.become(state.known);
-            smoke(state);
+            smoke(state, secrets);
             int cured = cure(state);
-            tell(state);
+            tell(state, secrets);
             state.coins = Math.min(MOST_COINS, state.coins + 2 * cured);
             state.night++;
             int wiser = 0;
@@ -1435,17 +1443,19 @@ public final class SmokedSecrets {
         }
 
         /** OAK goes down behind all of it alone: LAWS see what there was as the NIGHT began. */
-        private void smoke(State state) {
+        private void smoke(State state, int secrets) {
             int oakLeft = state.oakLeft;
             for (int secret = 0; secret < coast.secrets(); secret++) {
                 if (!state.hangs(secret) || oakLeft < 1) {
                     continue;
                 }
                 oakLeft--;
-                int heavy = coast.heavy(secret);
-                for (int i = 0; i < coast.persons(); i++) {
-                    int strength = strengthAt(state, secret, state.where.get(i), heavy);
-                    state.breathe(i, secret, strength, coast.nose(i));
+                int breathing = (secrets >> secret & 1) != 0 ? coast.persons() : 0;
+                for (int i = 0; i < breathing; i++) {
+                    int strength = strengthAt(state, secret, state.where.get(i), coast.heavy(secret));
+                    if (strength > 0) {
+                        state.breathe(i, secret, strength, coast.nose(i));
+                    }
                 }
                 state.smoked.add(secret, 1);
             }
@@ -1464,22 +1474,22 @@ public final class SmokedSecrets {
             return cured;
         }
 
-        private void tell(State state) {
+        private void tell(State state, int secrets) {
             knownBehindCuring.become(state.known);
             for (int one = 0; one < coast.persons(); one++) {
                 for (int other = one + 1; other < coast.persons(); other++) {
                     if (state.where.get(one) == state.where.get(other)) {
-                        tellAtTable(state, one, other);
+                        tellAtTable(state, one, other, secrets & ~state.curedOnes);
                     }
                 }
             }
         }
 
-        private void tellAtTable(State state, int one, int other) {
+        private void tellAtTable(State state, int one, int other, int secrets) {
             for (int i = 0; i < coast.secrets(); i++) {
                 boolean oneKnows = (knownBehindCuring.get(i) >> one & 1) != 0;
                 boolean otherKnows = (knownBehindCuring.get(i) >> other & 1) != 0;
-                if (!state.isCured(i) && oneKnows != otherKnows) {
+                if ((secrets >> i & 1) != 0 && oneKnows != otherKnows) {
                     int hears = oneKnows ? other : one;
                     state.breathe(hears, i, 1, coast.nose(hears));
                 }
@@ -1514,7 +1524,7 @@ public final class SmokedSecrets {
                 if (trial.knows(person, secret)) {
                     return i;
                 }
-                world.pass(trial);
+                world.pass(trial, 1 << secret);
             }
             return NONE;
         }
@@ -1525,7 +1535,7 @@ public final class SmokedSecrets {
                 if (trial.isCured(secret)) {
                     return i;
                 }
-                world.pass(trial);
+                world.pass(trial, 0);
             }
             return NONE;
         }
@@ -1567,7 +1577,7 @@ public final class SmokedSecrets {
                 }
                 then.become(ahead);
                 then.wind = row >> 2 * (nights - 1 - i) & 3;
-                world.pass(then);
+                world.pass(then, 1 << secret);
                 if ((then.known.get(secret) & persons) != 0) {
                     return i + 1;
                 }
@@ -1604,7 +1614,11 @@ public final class SmokedSecrets {
             int sum = 0;
             for (int row = 0; row < 1 << nights; row++) {
                 for (int i = firstNew(row, nights, 1); i < nights; i++) {
-                    passByChance(i, (row >> nights - 1 - i & 1) != 0, chance);
+                    boolean turns = (row >> nights - 1 - i & 1) != 0;
+                    State then = stepByChance(i, turns, chance);
+                    if (then != null) {
+                        world.pass(then, 1 << secret);
+                    }
                 }
                 if (last.knows(person, secret)) {
                     sum += parts.get(nights);
@@ -1613,18 +1627,19 @@ public final class SmokedSecrets {
             return sum;
         }
 
-        private void passByChance(int night, boolean turns, int chance) {
+        /** The way that begins so goes on with the WIND turned or not: as it is then, its part set. */
+        private State stepByChance(int night, boolean turns, int chance) {
             State ahead = State.pick(behind, night);
             State then = State.pick(behind, night + 1);
             if (ahead == null || then == null) {
-                return;
+                return null;
             }
             int whole = parts.get(night);
             int turned = (int) ((long) whole * chance / 100);
             parts.set(night + 1, turns ? turned : whole - turned);
             then.become(ahead);
             then.wind = turns ? (ahead.wind + 1) % WAYS : ahead.wind;
-            world.pass(then);
+            return then;
         }
     }
 

@@ -118,6 +118,9 @@ public final class PromisesTest {
         due("a byte of 255 is a FAULT", 0, x.fault(0));
         x.end(239);
         due("feed two where one has room", -1, x.feed(0x0101, 0, 0, 0, 0));
+        due("feed one in b, one in c", -1, x.feed(0, 1, 1, 0, 0));
+        due("feed one in c, one in d", -1, x.feed(0, 0, 1 << 24, 1 << 16, 0));
+        due("feed one in d, one in e", -1, x.feed(0, 0, 0, 1 << 8, -1 << 24));
         due("feed refused changes nothing", 239, x.count(4));
         due("feed the last one", 240, x.feed(0, 0, 1, 0, 0));
     }
@@ -162,7 +165,9 @@ public final class PromisesTest {
         fault(x, 0, "ca6", 2);
         fault(x, 0, "ck0", 2);
         fault(x, 0, "cx6", 2);
+        fault(x, 0, "px6;p;c", 2);
         fault(x, 0, "py5", 2);
+        fault(x, 0, "cy5;p;p", 2);
         fault(x, 0, "px", 2);
         fault(x, 0, "px;", 2);
         fault(x, 0, "px1x1", 3);
@@ -325,6 +330,8 @@ public final class PromisesTest {
         worth("y:9999*9999/9999/20", 5);
         worth("y:[0-9999*9999]/9999/20+6", 1);
         worth("y:[9999*9999+5]-9999*9999+1", 1);
+        worth("y:9999*9999-9999*100-95", 5);
+        worth("y:0-9999*9999+9999*100+105", 5);
         worth("y:k=2?4", 0);
         worth("y:k=2?4;y:5", 5);
         worth("y:k=3?4;y:5", 4);
@@ -419,6 +426,10 @@ public final class PromisesTest {
         due("none behind it", -1, x.nights(1));
         due("status 4 again", 2, x.status(4));
         due("years none behind it", -1, x.years(1, 1));
+        due("undone", 39, x.undo());
+        due("years beyond it", -1, x.years(2, 1));
+        due("no STATUS of them", 2, x.status(4));
+        due("years to it", 999, x.years(1, 1));
         // OAK for the first alone
         x = Tell.coast("sw2h2o1;p;p;ck9;ck9");
         x.hang(0);
@@ -530,6 +541,8 @@ public final class PromisesTest {
         due("no such one", -1, x.moves(3, 9));
         due("no such one below", -1, x.moves(-1, 0));
         due("status 0", 2, x.status(0));
+        x.give(1);
+        due("just enough", 1, x.moves(0, 1));
         x.give(4);
         due("right, out", -1, x.moves(2, 1));
         due("down to the last ROW", 11, x.moves(2, 2));
