@@ -1,6 +1,8 @@
 /** Counts answers that are not as due, and ends a test. */
 final class Check {
     private final String test;
+    private String sentence = "";
+    private int sentences;
     private int asked;
     private int wrong;
 
@@ -8,12 +10,26 @@ final class Check {
         this.test = test;
     }
 
+    /** One sentence of the document (where it stands, its words) and the test of its own that holds it. */
+    void sentence(String where, String words, Runnable test) {
+        sentence = "[" + where + ": " + words + "] ";
+        sentences++;
+        int before = asked;
+        try {
+            test.run();
+        } catch (RuntimeException e) {
+            due(e + " thrown", 0, 1);
+        }
+        due("asked", true, asked > before);
+        sentence = "";
+    }
+
     void due(String what, long want, long got) {
         asked++;
         if (want != got) {
             wrong++;
             if (wrong <= 20) {
-                System.out.println(test + ": " + what + " answered " + got + ", due is " + want);
+                System.out.println(test + ": " + sentence + what + " answered " + got + ", due is " + want);
             }
         }
     }
@@ -27,7 +43,8 @@ final class Check {
     }
 
     void end() {
-        System.out.println(test + ": " + (asked - wrong) + " of " + asked + " answers as due");
+        String held = sentences == 0 ? "" : sentences + " sentences, ";
+        System.out.println(test + ": " + held + (asked - wrong) + " of " + asked + " answers as due");
         if (wrong != 0) {
             System.exit(1);
         }
