@@ -1196,6 +1196,7 @@ public final class BoundaryActsTest {
             BoundaryActsTest::yearsIfThereIsACell);
         CHECK.sentence("Terms 4", "OAK is one more (999 at most)", BoundaryActsTest::yearsOak);
         CHECK.sentence("Terms 4", "OAK is one more (999 at most)", BoundaryActsTest::yearsOakAtMost);
+        CHECK.sentence("Terms 4", "OAK is one more (999 at most)", BoundaryActsTest::yearsOakAsTheNightBegins);
         CHECK.sentence("Terms 4", "all for nothing", BoundaryActsTest::yearsForNothing);
         CHECK.sentence("Terms 4", "x, at first the seed", BoundaryActsTest::yearsBySeed);
     }
@@ -1349,6 +1350,25 @@ public final class BoundaryActsTest {
         x.hang(0);
         x.years(1, 1);
         due("999 at most without smoke", 999, x.rule(2));
+    }
+
+    private static void yearsOakAsTheNightBegins() {
+        int found = 0;
+        for (long seed = 0; found < 5; seed++) {
+            Draws draws = new Draws(seed);
+            draws.of(10);
+            draws.of(1);
+            // 0 goes, and not to 1, who stays where the smoke goes.
+            if (draws.of(2) == 0 && draws.of(4) != 1) {
+                SmokedSecrets x = Tell.coast("sw2h2o4;p;px1n9;ca0k9");
+                Tell.obey(x, "y:o");
+                x.gusts(0);
+                x.years(1, seed);
+                due("4 and one more", 5, x.breath(1, 0));
+                due("one less behind it", 4, x.rule(2));
+                found++;
+            }
+        }
     }
 
     private static void yearsForNothing() {

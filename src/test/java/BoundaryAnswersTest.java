@@ -1067,6 +1067,8 @@ public final class BoundaryAnswersTest {
         CHECK.sentence("34 rests", "how many (i NONE), the i-th", BoundaryAnswersTest::restsNoSuchOne);
         CHECK.sentence("Terms 3", "10 times x and y by which neither has more by another of its own",
             BoundaryAnswersTest::restsOfTwo);
+        CHECK.sentence("Terms 3", "by which neither has more by another of its own",
+            BoundaryAnswersTest::restsByOneWay);
     }
 
     private static void restsBounds() {
@@ -1118,6 +1120,23 @@ public final class BoundaryAnswersTest {
         due("both to the right", 11, x.rests(0, 1, 0));
         due("both down", 22, x.rests(0, 1, 1));
         due("both stay", 44, x.rests(0, 1, 2));
+    }
+
+    /** He is in smoke, and just one way leads out of it; the other one is far off. */
+    private static void oneWayOut(String told, int rest, int turned) {
+        SmokedSecrets x = Tell.coast(told);
+        x.hang(0);
+        due("how many of " + told, 1, x.rests(0, 1, -1));
+        due("the rest of " + told, rest, x.rests(0, 1, 0));
+        due("how many, told the other way", 1, x.rests(1, 0, -1));
+        due("the rest, told the other way", turned, x.rests(1, 0, 0));
+    }
+
+    private static void restsByOneWay() {
+        oneWayOut("sw4h2v1;py1;px3;cy1k9", 4, 40);
+        oneWayOut("sw2h4v2;p;px1y3;ck9", 14, 41);
+        oneWayOut("sw4h2v1;p;px3y1;ck9", 24, 42);
+        oneWayOut("sw2h4v2;px1;py3;cx1k9", 34, 43);
     }
 
     // ---- promise 35
@@ -1245,6 +1264,7 @@ public final class BoundaryAnswersTest {
         CHECK.sentence("36 shares", "NONE: no such PERSON, out of bounds.", BoundaryAnswersTest::sharesBounds);
         CHECK.sentence("Terms 3", "cut (none: 0)", BoundaryAnswersTest::sharesOfNone);
         CHECK.sentence("Terms 3", "for a PERSON c times his by that of all, cut", BoundaryAnswersTest::sharesCut);
+        CHECK.sentence("Terms 3", "by BREATH (of all SECRETS)", BoundaryAnswersTest::sharesOfAllSecrets);
     }
 
     private static void sharesBounds() {
@@ -1287,6 +1307,22 @@ public final class BoundaryAnswersTest {
         x.nights(1);
         due("all of 999", 999, x.shares(0, 999));
         due("nothing of 999", 0, x.shares(1, 999));
+    }
+
+    private static void sharesOfAllSecrets() {
+        SmokedSecrets x = Tell.coast("sw3h2o99v1;p;px2y1;px1y1;c;c;c;c;c;ca0k3");
+        x.hang(5);
+        x.nights(1);
+        due("of the last SECRET all is his", 999, x.shares(0, 999));
+        due("nothing is the next one's", 0, x.shares(1, 999));
+        due("he is FULLEST", 0, x.most(2));
+        x = Tell.coast("sw3h2o99v1;py1;p;px2y1;c;c;c;c;c;c");
+        hangAll(x);
+        x.nights(1);
+        due("of all six, the first included, all is his", 999, x.shares(1, 999));
+        due("nothing is the one's ahead of him", 0, x.shares(0, 999));
+        due("nor the next one's", 0, x.shares(2, 999));
+        due("he is FULLEST", 1, x.most(2));
     }
 
     // ---- promise 37

@@ -1265,6 +1265,13 @@ public final class BoundaryTextsTest {
         holds("k=3&f=2&v=1&o=9", true);
         holds("k=3&f=2&v=1&o=8", false);
         holds("k=0|f=0|v=0|o=9", true);
+        holds("k<4&f=2", true);
+        holds("f=2&k<4", true);
+        holds("k>2&f=2", true);
+        holds("k<4&k>2", true);
+        holds("k<4&k>2&!k<3&(k<9|f=0)", true);
+        holds("!k<4|f=1", false);
+        holds("!k>2|f=1", false);
     }
 
     private static void sums() {
