@@ -38,6 +38,11 @@ final class Check {
         due(what, want ? 1 : 0, got ? 1 : 0);
     }
 
+    void due(String what, String want, String got) {
+        boolean same = want.equals(got);
+        due(same ? what : what + " (" + got + " for " + want + ")", true, same);
+    }
+
     int wrong() {
         return wrong;
     }
